@@ -20,8 +20,23 @@ public final class PlainTest {
         for (int run = 0; run < RUNS && Check.allWell(); run++) {
             new PlainTest(run).go();
         }
+        longReins();
         laws();
         Check.end();
+    }
+
+    /** Twelve hours, rein by rein; few lands, since Plain tries all plans. */
+    private static void longReins() {
+        for (int run = 0; run < 12 && Check.allWell(); run++) {
+            PlainTest test = new PlainTest(100000 + run);
+            test.carriage(test.draw.nextInt(256), test.draw.nextInt(8));
+            test.place(test.draw.nextInt(256));
+            test.mend(0, 2, 1 + run % 2);
+            test.tell(lawText(test.draw));
+            for (int k = -1; k <= 12; k += k < 0 || k > 8 ? 1 : 5) {
+                test.same("reins(0, 12, " + k + ")", test.face.reins(0, 12, k), test.plain.reins(0, 12, k));
+            }
+        }
     }
 
     private void same(String call, long got, long want) {

@@ -175,6 +175,16 @@ public final class PromisesTest {
         due("3 till full", f.carriages(1, 0, 3), 2);
         due("3 full", f.carriages(1, 0, 3), 0);
         due("3 six", f.count(0), 6);
+        CoachmenFace g = new CoachmenFace();
+        fill(g, 0, 1, 1, 1, 1);
+        due("3 a three that ends with the row", g.carriages(0, 0, 2), 1);
+        g.row(0, 1, 60);
+        for (int i = 55; i < 63; i++) {
+            due("3 at the end of the longest row, " + i, g.carriages(0, i, 1), 0);
+        }
+        g.put(0, 57, 3);
+        g.put(0, 59, 3);
+        due("3 the last three of the longest row", g.carriages(0, 57, 2), 1);
     }
 
     private static void p4place() {
@@ -468,6 +478,12 @@ public final class PromisesTest {
         due("11 first", f.nears(0, 9, 1), 2);
         due("11 one hour", f.nears(0, 1, 0), 3);
         due("11 one hour, when", f.nears(0, 1, 1), 1);
+        tell(f, "0");
+        f.carriage(at(2, 15), 0);
+        due("11 the other carriage and place", f.nears(11, 60, 0), 0);
+        due("11 the other carriage and place, when", f.nears(11, 60, 1), 10);
+        due("11 the other carriage", f.nears(10, 8, 0), 4);
+        due("11 the other carriage, when", f.nears(10, 8, 1), 4);
         due("11 there", f.nears(1, 60, 0), 0);
         due("11 there, when", f.nears(1, 60, 1), 0);
     }
@@ -521,6 +537,32 @@ public final class PromisesTest {
         due("13 in one cell", f.meet(1), 4);
         f.mend(1, 0, at(0, 3));
         due("13 now", f.meet(1), 0);
+        f.mend(0, 0, at(0, 0));
+        f.mend(0, 1, 2);
+        f.carriage(at(2, 2), 4);
+        due("13 others by their numbers, in one cell", f.meet(20), 28);
+        // at (3, 0) and (2, 1), both on the way back
+        f.mend(0, 6, 1);
+        due("13 others are near", f.meet(2), 27);
+        due("13 in the 60th hour", inTheLastHour().meet(1), 60);
+        CoachmenFace g = inTheLastHour();
+        g.mend(1, 0, at(0, 11));
+        due("13 not in the 60th hour", g.meet(1), NOT);
+    }
+
+    /**
+     * The first stays in the corner; the second, along a row there, back, there and half back, turns up
+     * and left in its 51st hour and is in the corner behind 60 hours.
+     */
+    private static CoachmenFace inTheLastHour() {
+        CoachmenFace f = new CoachmenFace();
+        f.mend(0, 6, 0);
+        tell(f, "k=1&h=50");
+        f.carriage(at(0, 0), 1);
+        f.carriage(at(0, 10), 2);
+        f.place(at(15, 10));
+        f.place(at(0, 0));
+        return f;
     }
 
     private static void p14often() {
@@ -540,6 +582,8 @@ public final class PromisesTest {
         f.mend(1, 1, 2);
         due("14 always", f.often(1, 60), 61);
         due("14 now counts", f.often(1, 0), 1);
+        due("14 in the 60th hour", inTheLastHour().often(1, 60), 1);
+        due("14 not yet in the 59th", inTheLastHour().often(1, 59), 0);
     }
 
     private static void p15who() {
@@ -599,6 +643,8 @@ public final class PromisesTest {
         due("16 a chain", g.soonest(1, 0), 0);
         due("16 all of the chain", g.soonest(1, 1), 63);
         due("16 the chain back", g.soonest(10, 1), 63);
+        due("16 in the 60th hour", inTheLastHour().soonest(1, 0), 60);
+        due("16 in the 60th hour, by which", inTheLastHour().soonest(1, 1), 3);
     }
 
     private static void p17buy() {
@@ -780,6 +826,26 @@ public final class PromisesTest {
         due("20 beyond the law: more", f.reins(0, 1, 0), 2);
         due("20 twelve hours", f.reins(0, 12, 12), NOT);
         due("20 nothing has moved", f.of(0, 0), at(8, 8));
+        // up into the corner: cell 0, way 0
+        tell(f, "0");
+        f.carriage(at(0, 1), 0);
+        f.mend(1, 4, at(0, 0));
+        due("20 another carriage, another place", f.reins(11, 1, -1), 0);
+        due("20 another carriage, the same place", f.reins(10, 1, -1), NOT);
+        // eleven hours straight on, then aside in the twelfth
+        f.mend(1, 0, at(1, 5));
+        f.mend(1, 1, 2);
+        f.mend(1, 4, at(13, 4));
+        due("20 the twelfth hour", f.reins(11, 12, -1), 1);
+        due("20 the twelfth hour: less", f.reins(11, 12, 11), 0);
+        due("20 the eleventh hour: none", f.reins(11, 12, 10), 1);
+        f.mend(1, 4, at(13, 6));
+        due("20 the twelfth hour: more", f.reins(11, 12, 11), 2);
+        // aside and back in two hours: two reins, none as long as may be, then less before more
+        f.mend(1, 4, at(13, 3));
+        due("20 two rows up", f.reins(11, 12, -1), 1);
+        due("20 two rows up: in the eleventh hour", f.reins(11, 12, 10), 0);
+        due("20 two rows up: none in the twelfth", f.reins(11, 12, 11), 1);
     }
 
     private static void p21chance() {
@@ -796,6 +862,11 @@ public final class PromisesTest {
         due("21 x above", f.chance(0, 1, 13, 0), LMIN);
         due("21 part below", f.chance(0, 1, 1, -1), LMIN);
         due("21 part above", f.chance(0, 1, 1, 2), LMIN);
+        due("21 not now", f.chance(0, 0, 6, 0), 0);
+        f.mend(0, 6, 2);
+        due("21 now", f.chance(0, 0, 6, 0), 1);
+        due("21 now by one", f.chance(0, 0, 6, 1), 1);
+        f.mend(0, 6, 0);
         // there by turning in neither of two hours: 9/12 by 9/12
         due("21 above the line", f.chance(0, 2, 3, 0), 9);
         due("21 below the line", f.chance(0, 2, 3, 1), 16);
@@ -840,6 +911,10 @@ public final class PromisesTest {
         due("22 above the line", f.mean(0, 2, 6, 0), 13);
         due("22 below the line", f.mean(0, 2, 6, 1), 4);
         f.mend(0, 4, at(9, 8));
+        f.carriage(at(2, 2), 4);
+        f.place(at(2, 9));
+        due("22 another carriage and place", f.mean(11, 3, 0, 0), 4);
+        due("22 another carriage", f.mean(10, 3, 0, 0), 7);
         due("22 there", f.mean(0, 1, 0, 0), 0);
         due("22 there by one", f.mean(0, 1, 0, 1), 1);
     }
@@ -877,6 +952,14 @@ public final class PromisesTest {
         f.mend(0, 1, 0);
         f.mend(0, 4, at(14, 2));
         due("23 six hours are told", f.byTurns(0, 6, 0) >= 0 ? 1 : 0, 1);
+        // of a third hour, which is hers: worked out by hand from all 27 ends
+        f.carriage(at(8, 8), 0);
+        f.place(at(8, 4));
+        f.mend(1, 4, at(8, 4));
+        due("23 one hour", f.byTurns(11, 1, 0), 3);
+        due("23 two hours", f.byTurns(11, 2, 0), 2);
+        due("23 three hours: she mends what he did", f.byTurns(11, 3, 0), 1);
+        due("23 three hours: none", f.byTurns(11, 3, 1), 1);
     }
 
     private static void p24drawn() {
@@ -1098,6 +1181,7 @@ public final class PromisesTest {
         due("32 forty are kept", f.count(3), 40);
         for (int i = 39; i >= 0; i--) {
             due("32 of forty", f.undo(), i);
+            due("32 of forty: what it was", f.of(0, 0), i + 1);
         }
         due("32 no more of forty", f.undo(), STATE);
         due("32 the oldest stays", f.of(0, 0), 1);
