@@ -881,7 +881,7 @@ public final class CoachmenFace {
 
         int lawBehind(int t, int way) {
             int i = 8 * t + way;
-            if (!within(i, 0, given.length - 1)) {
+            if (i < 0 || i >= given.length) {
                 return 0;
             }
             // with the number of its start, so that what an earlier one kept is known without clearing it
@@ -896,22 +896,26 @@ public final class CoachmenFace {
         /** Where it stands an hour on, t hours from now on, turned by so much beyond the law. */
         int next(int stand, int t, int beyond) {
             int way = stand + lawBehind(t, stand & 7) + beyond & 7;
-            int cell = stand >> 3;
+            int x = stand >> 3 & 15;
+            int y = stand >> 7;
             gone = 0;
             for (int step = 0; step < pace; step++) {
-                if (leaves(cell, way)) {
+                if (!onLand(x + RIGHT[way], y + DOWN[way])) {
                     way = way + 4 & 7;
+                    if (!onLand(x + RIGHT[way], y + DOWN[way])) {
+                        continue;
+                    }
                 }
-                if (!leaves(cell, way)) {
-                    cell += 16 * DOWN[way] + RIGHT[way];
-                    gone++;
-                }
+                x += RIGHT[way];
+                y += DOWN[way];
+                gone++;
             }
-            return 8 * cell + way;
+            return 128 * y + 8 * x + way;
         }
 
-        private static boolean leaves(int cell, int way) {
-            return !within((cell & 15) + RIGHT[way], 0, 15) || !within((cell >> 4) + DOWN[way], 0, 15);
+        /** -1 and 16 both have a bit beyond the lowest four; asked so often that one test counts. */
+        private static boolean onLand(int x, int y) {
+            return ((x | y) & ~15) == 0;
         }
     }
 
@@ -1139,7 +1143,8 @@ public final class CoachmenFace {
         }
 
         private int firstWrong(Shelf row, int k) {
-            for (int two = 0; two < twosOf(row); two++) {
+            int twos = twosOf(row);
+            for (int two = 0; two < twos; two++) {
                 if (!isSo(row, two, k)) {
                     return two;
                 }
@@ -1164,7 +1169,8 @@ public final class CoachmenFace {
         /** No hour behind this one is asked for. */
         private static int lastHour(Shelf row) {
             int last = 0;
-            for (int two = 0; two < twosOf(row); two++) {
+            int twos = twosOf(row);
+            for (int two = 0; two < twos; two++) {
                 int t = (int) row.items[2 * two];
                 if (t > last && t <= HOURS) {
                     last = t;
