@@ -1183,6 +1183,10 @@ public final class EdgesTest {
             q.place(at(8, 8));
             due("from " + end[0] + " facing " + end[1], q.byTurns(0, end[2], 0), end[3]);
         }
+        CoachmenFace r = one(at(12, 8), 2, 2);
+        r.place(at(14, 8));
+        due("at the edge he can't but come back to the place", r.byTurns(0, 2, 0), 0);
+        due("she goes there straight on", r.byTurns(0, 2, 1), 1);
 
         edge("each in his hour turns it one less, none or one more beyond THE LAW");
         CoachmenFace h = one(at(8, 8), 0, 4);
